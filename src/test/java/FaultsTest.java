@@ -27,6 +27,7 @@ public final class FaultsTest {
         toldAlready();
         noSuchClause();
         firstOfSeveral();
+        longestTexts();
         CHECK.end();
     }
 
@@ -161,5 +162,29 @@ public final class FaultsTest {
         faulty("c()".repeat(16) + "d0", 1, 48);
         faulty("c(" + "d0".repeat(30) + ")d0", 1, 63);
         faulty("c()".repeat(15) + "cc()", 1, 46);
+        faulty("c+0+6()", 2, 4);
+        faulty("c+0+()", 1, 4);
+        faulty("c+0+0+6()", 4, 4);
+        faulty("c(r16d8)", 2, 3);
+    }
+
+    /** 240 letters, so that the end of the text is the end of the room for it. */
+    private static void longestTexts() {
+        String blanks = " ".repeat(240);
+        sound(blanks, 0);
+        sound("c()" + blanks.substring(3), 1);
+        sound(blanks.substring(3) + "c()", 1);
+        sound("c()".repeat(15) + blanks.substring(108) + "c(" + "d0".repeat(30) + ")", 16);
+        faulty(blanks.substring(1) + "c", 1, 240);
+        faulty(blanks.substring(2) + "c+", 1, 240);
+        faulty(blanks.substring(2) + "c*", 1, 240);
+        faulty(blanks.substring(2) + "c(", 1, 240);
+        faulty(blanks.substring(3) + "c(d", 1, 240);
+        faulty(blanks.substring(3) + "c(r", 1, 240);
+        faulty(blanks.substring(4) + "c(r0", 1, 240);
+        faulty(blanks.substring(6) + "c(r100", 2, 237);
+        faulty("c(" + blanks.substring(2), 1, 240);
+        faulty("c(" + ")".repeat(238), 1, 3);
+        faulty("c".repeat(240), 1, 1);
     }
 }

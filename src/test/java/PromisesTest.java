@@ -569,6 +569,10 @@ public final class PromisesTest {
         start("c(d0u1)c(d1u2)");
         due("17: term(0, 4), only what it hangs on at once", 2, desk.term(0, 4));
         due("17: term(0, 3), it comes to others alone", 0, desk.term(0, 3));
+        start("c-0(d0u1)c+0(d0u1)c-0(d0u2)");
+        due("17: term(0, 4) by no", 6, desk.term(0, 4));
+        desk.answer(0, true);
+        due("17: term(0, 4) by yes", 2, desk.term(0, 4));
     }
 
     private static void promise18() {

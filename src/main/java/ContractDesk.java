@@ -539,7 +539,10 @@ public final class ContractDesk {
 
         /** The figure that stands here; NONE, if none does. */
         private int figureHere() {
-            int figure = letterHere() - '0';
+            if (at < 0 || at >= length) {
+                return NONE;
+            }
+            int figure = letters[at] - '0';
             return figure >= 0 && figure <= 9 ? figure : NONE;
         }
 

@@ -590,6 +590,11 @@ public final class TermsEdgesTest {
         due("told(4), called, but not the one around", 4, desk.told(4));
         start("c(r1c*())");
         due("told(4), the one around refers", 3, desk.told(4));
+        start("c+0(r1)c*()c+1(r1)");
+        due("by(1, 0), one ahead refers", 3, desk.by(1, 0));
+        due("by(2, 0), one behind refers", 6, desk.by(2, 0));
+        due("by(3, 0), both refer", 7, desk.by(3, 0));
+        due("by(0, 0), neither is in force", 0, desk.by(0, 0));
         sentence("(not itself)");
         start("c*(r0)");
         due("told(4), it refers to itself alone", 0, desk.told(4));
@@ -766,6 +771,15 @@ public final class TermsEdgesTest {
         due("wrong(4), over all eight", 255, desk.wrong(4));
         desk.strike(4, true);
         due("wrong(4), the round is broken", 0, desk.wrong(4));
+        sentence("it is ROUND, if it comes to itself so, by one of all answers alone");
+        String[] halves = {"c-0-1-2-3-4-5(d0u1)c(d1u0)", "c+0+1+2+3+4+5(d0u1)c(d1u0)"};
+        for (int i = 0; i < 2; i++) {
+            start(halves[i]);
+            for (int answers = 0; answers < 64; answers++) {
+                // One use is bare by either; both terms are round where the first clause is in force.
+                due("by(" + answers + ", 1) of '" + halves[i] + "'", answers == 63 * i ? 3 : 1, desk.by(answers, 1));
+            }
+        }
         sentence("Among parts of CLAUSES IN FORCE NOW: ROUND");
         start("c+0(d0u0)c(d1u2)c+0(d2u1)");
         due("wrong(4), not in force", 0, desk.wrong(4));
@@ -891,6 +905,13 @@ public final class TermsEdgesTest {
         due("hangs(14, 3) with five", 2, desk.hangs(14, 3));
         start("c+0+1(r2)c-0-1(r2)c*()");
         due("hangs(2, 1), by never as by sure", 2, desk.hangs(2, 1));
+        sentence("SETTLES: ANSWERS to QUESTIONS without one: those that there are stay");
+        start("c-0+1()");
+        desk.answer(0, false);
+        due("hangs(0, 1), yes to 0 is no way", 1, desk.hangs(0, 1));
+        start("c+0-1()");
+        desk.answer(0, true);
+        due("hangs(0, 1), no to 0 is no way", 1, desk.hangs(0, 1));
         sentence("SETTLES (0, if it is)");
         start("c()c+0(c-0())c+1()");
         due("hangs(0, 1), sure", 0, desk.hangs(0, 1));
